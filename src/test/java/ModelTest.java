@@ -5,8 +5,9 @@ import java.util.Random;
  * the seeds are fixed, so that every run of this test is the same.
  */
 final class ModelTest {
-    private static final int RUNS = 3000;
-    private static final int CALLS = 500;
+    private static final int RUNS = 6000;
+    /** As many as the document promises anything about. */
+    private static final int MOST_CALLS = 512;
     private static final int[] WILD = {
         Integer.MIN_VALUE, -1, 0, 1, 31, 32, 59, 60, 61, 63, 64, 200, 201, 300, 301, 1000, 1001,
         36500, 36501, Integer.MAX_VALUE
@@ -23,6 +24,9 @@ final class ModelTest {
     private final int maxWholes;
     private final long scale;
     private final boolean wild;
+    private final boolean manyPosts;
+    private final int kinds;
+    private int calls;
     private String call;
     private long got;
     private long want;
@@ -34,6 +38,8 @@ final class ModelTest {
         maxWholes = random.nextInt(10) == 0 ? 310 : 3 + random.nextInt(20);
         scale = random.nextInt(4) == 0 ? 1_000_000_000_000L : 1 + random.nextInt(2000);
         wild = random.nextInt(3) == 0;
+        manyPosts = random.nextInt(4) == 0;
+        kinds = manyPosts ? 5 : 6;
     }
 
     public static void main(String[] args) {
@@ -48,11 +54,14 @@ final class ModelTest {
     }
 
     private boolean runs(int seed) {
-        for (int i = 0; i < CALLS; i++) {
+        // the longest step is a check() behind as many tell() as there are entries
+        while (calls + model.entries.size() + 3 < MOST_CALLS) {
             one();
-            if (got != want || book.status() != model.status) {
-                System.out.println("seed " + seed + " call " + i + ": " + call + " answered " + got
-                        + " status " + book.status() + ", due is " + want + " status " + model.status);
+            calls++;
+            int status = book.status();
+            if (got != want || status != model.status) {
+                System.out.println("seed " + seed + " call " + calls + ": " + call + " answered " + got
+                        + " status " + status + ", due is " + want + " status " + model.status);
                 return false;
             }
         }
@@ -110,6 +119,7 @@ final class ModelTest {
     }
 
     private void answer(String text, long gotNow, long wantNow) {
+        calls++;
         call = text;
         got = gotNow;
         want = wantNow;
@@ -137,7 +147,7 @@ final class ModelTest {
         } else if (pick < 24) {
             days();
         } else if (pick < 48) {
-            change(random.nextInt(12));
+            change(manyPosts && random.nextBoolean() ? 6 : random.nextInt(12));
         } else if (pick < 55) {
             sales();
         } else if (pick < 78) {
@@ -154,7 +164,7 @@ final class ModelTest {
 
     private void newEntry() {
         int f = folio();
-        int kind = random.nextInt(30) == 0 ? number(-1, 8) : number(1, 6);
+        int kind = random.nextInt(30) == 0 ? number(-1, 8) : number(1, kinds);
         long sum = money(scale);
         boolean dayRate = kind == 4 || kind == 6;
         int rate = random.nextInt(4) == 0 ? 0 : number(0, dayRate ? 400 + random.nextInt(9000) : 201);
@@ -253,12 +263,13 @@ final class ModelTest {
         long sum = money(Math.min(Model.MOST, scale * (1 + random.nextInt(12))));
         long costs = random.nextInt(3) == 0 ? money(sum / 4) : 0;
         String rest = "(" + f + ", " + p + ", " + sum + ", " + costs + ")";
-        if (random.nextInt(3) == 0) {
+        if (random.nextInt(manyPosts ? 9 : 3) == 0) {
             answer("sell" + rest, book.sell(f, p, sum, costs), model.sell(f, p, sum, costs, true));
         } else {
             answer("sale" + rest, book.sale(f, p, sum, costs), model.sell(f, p, sum, costs, false));
         }
-        for (int n = 0; n <= model.entries.size() + 1 && got == want; n++) {
+        int step = 1 + model.entries.size() / 20;
+        for (int n = 0; n <= model.entries.size() + 1 && got == want; n += step) {
             answer("share(" + n + ") after it", book.share(n), model.share(n));
         }
     }
@@ -320,6 +331,7 @@ final class ModelTest {
     private void tellAll() {
         for (int n = 1; n <= model.entries.size(); n++) {
             if (model.share(n) != 0 && random.nextInt(20) != 0) {
+                calls++;
                 book.tell(n, model.share(n));
                 model.tell(n, model.share(n));
             }
