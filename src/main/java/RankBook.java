@@ -813,8 +813,9 @@ public final class RankBook {
         final long top;
         int interestFrom;
         int interestYears;
-        int aheadFrom;
+        /** Of a claim: null till it was told from which day it goes ahead. */
         Act claimed;
+        int aheadFrom;
         boolean touched;
 
         Terms(int kind, int rate, long top, int interestFrom) {
@@ -823,7 +824,6 @@ public final class RankBook {
             this.top = top;
             this.interestFrom = interestFrom;
             this.interestYears = INTEREST_YEARS;
-            this.aheadFrom = MAX_DAY + 1;
         }
 
         /** Rents and cautions are neither paid nor divided. */
@@ -1100,7 +1100,6 @@ public final class RankBook {
                 w.rank = NONE;
                 w.moves = 0;
             }
-            size = 0;
             rankPlaces(true);
             rankPlaces(false);
             for (Post p = firstPost; p != null; p = p.next) {

@@ -70,6 +70,10 @@ final class EntriesTest {
         C.due("6: 5 comes ahead of 10", x.enter(0, 7, 1, 0, 1), -1);
         C.due("6: 5 comes ahead of 10: status()", x.status(), 5);
         C.due("6: count(2) is left", x.count(2), 300);
+        C.due("6: the last one is there", x.kind(300, 0), 1);
+        C.due("6: there is none behind it", x.kind(301, 0), -1);
+        C.due("24: a sale with all of them", x.sale(0, 0, 0, 0), 0);
+        C.due("28: a check with all of them", x.check(0), 0);
     }
 
     private static void refusedEntry(int folio, int kind, long sum, int rate, long parcels, int status) {

@@ -61,6 +61,9 @@ final class FoliosTest {
         C.due("2: 5 comes ahead of 10", x.folio(61), -1);
         C.due("2: 5 comes ahead of 10: status()", x.status(), 5);
         C.due("2: count(1)", x.count(1), 40);
+        C.due("2: the last one is there", x.many(39, 1), 0);
+        C.due("2: there is none behind it", x.many(40, 0), -1);
+        C.due("2: there is none behind it: status()", x.status(), 1);
     }
 
     private static void tear() {

@@ -11,6 +11,7 @@ final class PostsTest {
         circle();
         fewest();
         leastPost();
+        searchesAreTheirOwn();
         room();
         C.finish();
     }
@@ -207,6 +208,24 @@ final class PostsTest {
         y.post(3, 4, 5);
         C.due("29: post(4, 1, 5), first step first", y.post(4, 1, 5), -1);
         circled("29: at each step, the first one first", y, 4, 1, 3);
+    }
+
+    /** What one search has found must not be taken for true by the next one. */
+    private static void searchesAreTheirOwn() {
+        RankBook x = scene();
+        x.post(1, 2, 5);
+        x.post(2, 3, 5);
+        C.due("13: post(3, 1, 5)", x.post(3, 1, 5), -1);
+        circled("13: the first search", x, 3, 1, 2);
+        C.done("13: post(4, 1, 5)", x, y -> y.post(4, 1, 5), 3);
+        C.due("13: post(2, 4, 5)", x.post(2, 4, 5), -1);
+        circled("13: the second search", x, 2, 4, 1);
+        C.done("13: post(3, 5, 5)", x, y -> y.post(3, 5, 5), 4);
+        C.due("13: post(5, 2, 5)", x.post(5, 2, 5), -1);
+        circled("13: the third search", x, 5, 2, 3);
+        C.done("13: post(1, 5, 5)", x, y -> y.post(1, 5, 5), 5);
+        C.due("13: post(5, 4, 5)", x.post(5, 4, 5), -1);
+        circled("13: the fourth search", x, 5, 4, 1);
     }
 
     private static void room() {

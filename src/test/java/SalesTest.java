@@ -10,6 +10,7 @@ final class SalesTest {
         leavesAndReleases();
         posts();
         postsOfParts();
+        postsOfManyLeaves();
         postsInTurn();
         sell();
         sellRents();
@@ -178,6 +179,39 @@ final class SalesTest {
         x.release(6, 0);
         C.due("24: a part that is released", x.sale(0, 0, 120, 0), 0);
         shares("24: the post does not count", x, 100, 40, 60, 20, 20, 0);
+    }
+
+    private static void postsOfManyLeaves() {
+        RankBook x = new RankBook();
+        x.folio(1);
+        x.enter(0, 1, 100, 0, 1);
+        x.split(1, 60); // 2, 3 with 40
+        x.split(2, 50); // 4 with 50, 5 with 10
+        x.split(4, 20); // 6 with 20, 7 with 30
+        x.enter(0, 1, 100, 0, 1); // 8
+        x.split(8, 30); // 9, 10 with 70
+        x.split(10, 30); // 11 with 30, 12 with 40
+        C.due("24: many leaves", x.sale(0, 0, 150, 0), 0);
+        shares("24: many leaves", x, 100, 60, 40, 50, 10, 20, 30, 50, 30, 20, 20, 0);
+        x.post(1, 10, 65);
+        // x 65, y 20: A gives 40, 10, 15 and gets 15, 5; B gives 20 and gets 30, 35
+        C.due("24: many leaves, a post", x.sale(0, 0, 150, 0), 0);
+        shares("24: many leaves, a post", x, 55, 55, 0, 50, 5, 20, 30, 95, 30, 65, 30, 35);
+        x.post(4, 9, 100);
+        // x 30, y 30: each gives and gets the same
+        C.due("24: many leaves, a post of parts", x.sale(0, 0, 150, 0), 0);
+        shares("24: many leaves, a post of parts", x, 55, 55, 0, 50, 5, 20, 30, 95, 30, 65, 30, 35);
+        x.undo(1);
+        x.post(2, 12, 45);
+        // x 40, y 0: 5, 7 give 10 and 30
+        C.due("24: many leaves, to the last", x.sale(0, 0, 150, 0), 0);
+        shares("24: many leaves, to the last", x, 60, 20, 40, 20, 0, 20, 0, 90, 30, 60, 20, 40);
+        x.undo(2);
+        x.undo(3);
+        x.post(8, 1, 45);
+        // x 45, y 45: 11 gives 20 and 9 gives 25, and they get them back
+        C.due("24: many leaves, given and got again", x.sale(0, 0, 150, 0), 0);
+        shares("24: many leaves, given and got again", x, 100, 60, 40, 50, 10, 20, 30, 50, 30, 20, 20, 0);
     }
 
     private static void postsInTurn() {

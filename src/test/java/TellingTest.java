@@ -49,6 +49,13 @@ final class TellingTest {
         x.claim(3, 0, 30);
         x.day(36500);
         C.due("30: the greatest interest", x.due(3), MOST + 6 * MOST);
+        RankBook late = new RankBook();
+        late.folio(1);
+        late.day(1000);
+        late.enter(0, 1, 1000, 100, 1);
+        C.due("30: none on the day of its entering", late.due(1), 1000);
+        late.day(1365);
+        C.due("30: a year from its entering", late.due(1), 1100);
         C.tellsAlone("30: due(0)", x, y -> y.due(0), -1);
         C.tellsAlone("30: due(4)", x, y -> y.due(4), -1);
         C.tellsAlone("30: due(2)", x, y -> y.due(2), 0);
