@@ -575,7 +575,11 @@ public final class RankBook {
 
     public long due(int entry) {
         Entry e = entryAt(entry);
-        return e == null ? NONE : e.whole.dueBelow(e, now.day);
+        if (e == null) {
+            return NONE;
+        }
+        e.whole.spreadDue(now.day);
+        return e.whole.leafDueBelow(e);
     }
 
     public int kind(int entry, int what) {
@@ -958,8 +962,7 @@ public final class RankBook {
             }
         }
 
-        long dueBelow(Entry top, int today) {
-            spreadDue(today);
+        long leafDueBelow(Entry top) {
             long total = 0;
             for (Entry leaf = firstLeaf; leaf != null; leaf = leaf.nextLeaf) {
                 if (leaf.isBelow(top)) {
@@ -1199,7 +1202,8 @@ public final class RankBook {
         }
 
         private static void giveWay(Post p) {
-            long x = Math.min(p.limit, Math.min(hasBelow(p.giver), dueHereBelow(p.taker)));
+            long dueToTaker = p.taker.whole.leafDueBelow(p.taker);
+            long x = Math.min(p.limit, Math.min(hasBelow(p.giver), dueToTaker));
             long y = Math.min(x, hasBelow(p.taker));
             give(p.giver, x);
             give(p.taker, y);
@@ -1212,16 +1216,6 @@ public final class RankBook {
             for (Entry leaf = top.whole.firstLeaf; leaf != null; leaf = leaf.nextLeaf) {
                 if (leaf.isBelow(top)) {
                     total += leaf.leafHas;
-                }
-            }
-            return total;
-        }
-
-        private static long dueHereBelow(Entry top) {
-            long total = 0;
-            for (Entry leaf = top.whole.firstLeaf; leaf != null; leaf = leaf.nextLeaf) {
-                if (leaf.isBelow(top)) {
-                    total += leaf.leafDue;
                 }
             }
             return total;
