@@ -52,7 +52,8 @@ public final class RankBook {
     private Post firstPost;
     private Post lastPost;
     private Moment now;
-    private int sinceDay;
+    /** What since() told; TODAY where it told none. */
+    private int actDay;
     private int chosenFolio;
     private long ownerHas;
     private int soldCount;
@@ -63,7 +64,6 @@ public final class RankBook {
         entries = new Entry[MAX_ENTRIES];
         latestCircle = new Circle();
         now = new Moment(0, 0);
-        sinceDay = NONE;
     }
 
     // ---- folios and days
@@ -99,7 +99,7 @@ public final class RankBook {
             return false;
         }
         now = new Moment(d, d);
-        sinceDay = NONE;
+        actDay = d;
         return true;
     }
 
@@ -114,7 +114,7 @@ public final class RankBook {
         if (!settle(isPastOrToday(d) ? DONE : OUT_OF_RANGE)) {
             return false;
         }
-        sinceDay = d;
+        actDay = d;
         return true;
     }
 
@@ -385,7 +385,7 @@ public final class RankBook {
         if (!e.whole.livesAt(now)) {
             return NOT_THERE;
         }
-        return actDay() < e.whole.entered.dated ? TOO_LATE : DONE;
+        return actDay < e.whole.entered.dated ? TOO_LATE : DONE;
     }
 
     public boolean keep(int caution, int entry) {
@@ -648,7 +648,7 @@ public final class RankBook {
             case 3:
                 return postCount;
             case 4:
-                return sinceDay;
+                return actDay;
             case 5:
                 return soldCount;
             case 6:
@@ -666,12 +666,8 @@ public final class RankBook {
         return fault == DONE;
     }
 
-    private int actDay() {
-        return sinceDay == NONE ? now.day : sinceDay;
-    }
-
     private Act newAct() {
-        return new Act(actDay(), now.day);
+        return new Act(actDay, now.day);
     }
 
     private boolean isPastOrToday(int d) {

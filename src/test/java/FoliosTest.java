@@ -93,9 +93,10 @@ final class FoliosTest {
     private static void day() {
         RankBook x = scene();
         C.did("4: day(10), the same", x, y -> y.day(10));
-        C.due("4: what since() told goes", x.count(4), -1);
+        C.due("4: what since() told goes, of the same day too", x.count(4), 10);
         C.did("4: day(36500)", x, y -> y.day(36500));
         C.due("4: count(0)", x.count(0), 36500);
+        C.due("4: count(4) is today, none told", x.count(4), 36500);
         C.denied("4: day(36501)", FoliosTest::scene, y -> y.day(36501), 5);
         C.denied("4: day(9)", FoliosTest::scene, y -> y.day(9), 8);
         C.denied("4: day(-1)", FoliosTest::scene, y -> y.day(-1), 8);
@@ -123,8 +124,16 @@ final class FoliosTest {
         C.denied("5: since(-1)", FoliosTest::scene, y -> y.since(-1), 5);
         C.denied("5: since(11)", FoliosTest::scene, y -> y.since(11), 5);
         RankBook z = new RankBook();
-        C.due("5: count(4), none told", z.count(4), -1);
+        C.due("5: count(4), none told", z.count(4), 0);
         C.did("5: since(0) on day 0", z, y -> y.since(0));
         C.due("5: count(4) is 0", z.count(4), 0);
+        z.day(7);
+        z.since(8);
+        C.due("5: count(4), none told that was done", z.count(4), 7);
+        z.since(3);
+        z.since(8);
+        C.due("5: a refused one leaves what was told", z.count(4), 3);
+        z.day(6);
+        C.due("5: so does a refused day()", z.count(4), 3);
     }
 }

@@ -670,7 +670,7 @@ final class Model {
     }
 
     int count(int what) {
-        int[] all = {today, folios.size(), entries.size(), posts.size(), since, sold, circles};
+        int[] all = {today, folios.size(), entries.size(), posts.size(), dated(), sold, circles};
         return what < 0 || what >= all.length ? -1 : Arrays.stream(all).skip(what).findFirst().getAsInt();
     }
 }

@@ -235,6 +235,7 @@ final class TellingTest {
         C.due("35: count(-1)", x.count(-1), -1);
         C.due("35: count(least)", x.count(Integer.MIN_VALUE), -1);
         x.day(14);
-        C.due("35: since() goes", x.count(4), -1);
+        C.due("35: since() goes, and it is today", x.count(4), 14);
+        C.tellsAlone("35: count(4), none told", new RankBook(), y -> y.count(4), 0);
     }
 }
