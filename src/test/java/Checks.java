@@ -1,3 +1,4 @@
+import java.util.function.Function;
 import java.util.function.Predicate;
 import java.util.function.Supplier;
 import java.util.function.ToLongFunction;
@@ -32,7 +33,10 @@ final class Checks {
         done(what, x, y -> call.test(y) ? 1 : 0, 1);
     }
 
-    /** The call answers NONE with this STATUS, and nothing else that can be seen is changed. */
+    /**
+     * The call answers NONE with this STATUS, and changes nothing else: whatever is asked or done
+     * next is answered as by a book on which it was not called.
+     */
     void refused(String what, Supplier<RankBook> scene, ToLongFunction<RankBook> call, int status) {
         refused(what, scene, call, status, RankBook.NONE, true);
     }
@@ -49,12 +53,16 @@ final class Checks {
     private void refused(String what, Supplier<RankBook> scene, ToLongFunction<RankBook> call,
             int status, long answer, boolean withCircles) {
         RankBook x = scene.get();
-        String before = picture(x, withCircles);
         due(what, call.applyAsLong(x), answer);
         due(what + ": status()", x.status(), status);
-        String after = picture(x, withCircles);
-        if (!before.equals(after)) {
-            tell(what + " was refused, but changed\n  " + before + "\n  to\n  " + after);
+        for (Function<RankBook, String> probe : Probes.all(withCircles)) {
+            RankBook called = scene.get();
+            call.applyAsLong(called);
+            String before = probe.apply(scene.get());
+            String after = probe.apply(called);
+            if (!before.equals(after)) {
+                tell(what + " was refused, but changed\n  " + before + "\n  to\n  " + after);
+            }
         }
     }
 
@@ -63,33 +71,6 @@ final class Checks {
         x.folio(0);
         due(what, call.applyAsLong(x), want);
         due(what + " leaves status()", x.status(), 5);
-    }
-
-    /** What can be seen of the first two folios and of the first ten entries. */
-    static String picture(RankBook x, boolean withCircles) {
-        StringBuilder all = new StringBuilder();
-        for (int i = 0; i < 6; i++) {
-            all.append(x.count(i)).append(' ');
-        }
-        if (withCircles) {
-            all.append("circles ").append(x.count(6)).append(' ').append(x.circle(0)).append(' ');
-        }
-        for (int e = 1; e <= Math.min(10, x.count(2)); e++) {
-            all.append("| ").append(x.sum(e)).append(' ').append(x.due(e)).append(' ')
-                    .append(x.parcels(e)).append(' ').append(x.share(e));
-            for (int what = 3; what <= 9; what++) {
-                all.append(' ').append(x.kind(e, what));
-            }
-        }
-        for (int f = 0; f < Math.min(2, x.count(1)); f++) {
-            for (int p = 0; p < 3; p++) {
-                all.append("| order");
-                for (int i = 0; i < 4; i++) {
-                    all.append(' ').append(x.list(f, p, i));
-                }
-            }
-        }
-        return all.append(" as ").append(x.as(0, x.count(0), x.count(0), 0)).toString();
     }
 
     private void tell(String text) {

@@ -15,6 +15,11 @@ final class SalesTest {
         sell();
         sellRents();
         sellParts();
+        coinByCoin();
+        soldCoinByCoin();
+        rentCoinByCoin();
+        limitCoinByCoin();
+        refusedSalesLeaveTheOwner();
         share();
         tellAndCheck();
         C.finish();
@@ -325,6 +330,86 @@ final class SalesTest {
         x.split(4, 6); // 6, 7
         C.due("25: those that come later are released", x.parcels(6), 2);
         C.due("25: and hold on the other parcel", x.rank(6, 1), 0);
+    }
+
+    /** Due are 100, then 50, then 80: each gets what is left, to the coin. */
+    private static void coinByCoin() {
+        for (long sum : new long[] {0, 1, 99, 100, 101, 149, 150, 151, 229, 230, 231, MOST}) {
+            RankBook x = scene();
+            long owner = x.sale(0, 0, sum, 0);
+            long first = Math.min(sum, 100);
+            long second = Math.min(sum - first, 50);
+            long third = Math.min(sum - first - second, 80);
+            shares("24: of " + sum, x, first, second, third);
+            C.due("24: of " + sum + ", the owner's", owner, sum - first - second - third);
+            x = scene();
+            C.due("24: of " + sum + ", all costs", x.sale(0, 0, sum, sum), 0);
+            shares("24: of " + sum + ", all costs", x, 0, 0, 0);
+        }
+    }
+
+    /** A charge of 100 with 10 of interest: what it lacked, but no more than its sum was. */
+    private static void soldCoinByCoin() {
+        long[][] sumAndLeft = {{0, 100}, {1, 100}, {9, 100}, {10, 100}, {11, 99}, {109, 1}, {110, 0}, {111, 0}};
+        for (long[] row : sumAndLeft) {
+            RankBook x = new RankBook();
+            x.folio(2);
+            x.enter(0, 1, 100, 100, 3);
+            x.day(365);
+            C.due("25: for " + row[0], x.sell(0, 0, row[0], 0), Math.max(0, row[0] - 110));
+            C.due("25: for " + row[0] + ", its sum", x.sum(1), row[1]);
+            C.due("25: for " + row[0] + ", its due", x.due(1), row[1]);
+            C.due("25: for " + row[0] + ", released", x.parcels(1), 2);
+        }
+    }
+
+    /** A rent of 10, due 200: just what it lacked, that may be more than its sum was. */
+    private static void rentCoinByCoin() {
+        long[][] sumAndLeft = {{0, 200}, {1, 199}, {189, 11}, {190, 10}, {191, 9}, {199, 1}, {200, 0}, {201, 0}};
+        for (long[] row : sumAndLeft) {
+            RankBook x = new RankBook();
+            x.folio(2);
+            x.enter(0, 4, 10, 0, 3);
+            C.due("25: a rent for " + row[0], x.sell(0, 0, row[0], 0), Math.max(0, row[0] - 200));
+            C.due("25: a rent for " + row[0] + ", its sum", x.sum(1), row[1]);
+            C.due("25: a rent for " + row[0] + ", its due", x.due(1), row[1]);
+        }
+    }
+
+    /** 100 and 80 are due, the first gives way: up to the limit, what it has, what is due to B. */
+    private static void limitCoinByCoin() {
+        for (long limit : new long[] {0, 1, 39, 40, 41, 79, 80, 81, 99, 100, 101, MOST}) {
+            for (long sum : new long[] {0, 1, 40, 79, 80, 81, 100, 140, 179, 180, 181}) {
+                RankBook x = new RankBook();
+                x.folio(1);
+                x.enter(0, 1, 100, 0, 1);
+                x.enter(0, 1, 80, 0, 1);
+                x.post(1, 2, limit);
+                long hasA = Math.min(sum, 100);
+                long hasB = Math.min(sum - hasA, 80);
+                long given = Math.min(hasA, Math.min(limit, 80));
+                long back = Math.min(given, hasB);
+                C.due("24: a post up to " + limit + " of " + sum, x.sale(0, 0, sum, 0), sum - hasA - hasB);
+                shares("24: a post up to " + limit + " of " + sum, x, hasA - given + back, hasB - back + given);
+            }
+        }
+    }
+
+    private static void refusedSalesLeaveTheOwner() {
+        long[][] refused = {
+            {2, 0, 9, 0}, {0, 3, 9, 0}, {0, 2, 9, 0}, {0, 0, -1, 0}, {0, 0, MOST + 1, 0}, {0, 0, 9, 10},
+        };
+        for (long[] row : refused) {
+            for (boolean sold : new boolean[] {false, true}) {
+                RankBook x = scene();
+                x.sale(0, 1, 170, 0);
+                long answer = sold ? x.sell((int) row[0], (int) row[1], row[2], row[3])
+                        : x.sale((int) row[0], (int) row[1], row[2], row[3]);
+                C.due("24: refused", answer, -1);
+                x.tell(1, 100);
+                C.due("28: what the owner had before", x.check(70), 0);
+            }
+        }
     }
 
     private static void share() {
